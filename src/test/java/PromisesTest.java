@@ -461,37 +461,23 @@ public final class PromisesTest {
         due.is("9: seven again, shortest", x.length(4), 6);
     }
 
-    /** The list plan is led astray by equal ways: this block has a plan that is shorter by a cycle. */
+    /** The list plan takes the LOAD before the SET, for both have one way; both ADDs wait for the SET. */
     private static void shortestBeatsTheList() {
         BlockBench x = new BlockBench();
-        x.latency(LOAD, 3);
+        x.latency(SET, 2);
+        x.latency(ADD, 2);
+        x.latency(LOAD, 2);
+        x.add(LOAD, 5, 1, 0, 0);
+        x.add(SET, 0, 0, 0, 2);
+        x.add(ADD, 5, 0, 5, 0);
+        x.add(ADD, 6, 0, 2, 0);
+        due.is("9: list plan, led astray", x.length(1), 6);
+        due.is("9: shortest, the SET first", x.length(4), 5);
         x.units(2);
-        x.add(STORE, 0, 0, 1, 0);
-        x.add(STORE, 0, 0, 2, 1);
-        x.add(SET, 3, 0, 0, 0);
-        x.add(STORE, 0, 0, 3, 2);
-        x.add(SET, 4, 0, 0, 0);
-        x.add(STORE, 0, 0, 4, 3);
-        due.is("9: no shorter than the units allow", x.length(4), 3);
-        int beaten = 0;
-        long seed = 20261115L;
-        for (int block = 0; block < 400; block++) {
-            BlockBench y = new BlockBench();
-            for (int i = 0; i < 12; i++) {
-                seed = seed * 6364136223846793005L + 1442695040888963407L;
-                int bits = (int) (seed >>> 33);
-                if (i < 5) {
-                    y.latency(bits % 7, 1 + (bits >> 4) % 6);
-                } else {
-                    y.add((bits & 0xffff) % 7, (bits >> 3) % 5, (bits >> 7) % 5, (bits >> 11) % 5, bits >> 20);
-                }
-            }
-            y.units(1 + block % 3);
-            due.holds("9: shortest is at least the greatest WAY", y.length(4) >= y.length(0));
-            due.holds("9: shortest is at most the list plan", y.length(4) <= y.length(1));
-            beaten += y.length(4) < y.length(1) ? 1 : 0;
-        }
-        due.holds("9: some list plans are not shortest", beaten > 0);
+        due.is("9: shortest with two units", x.length(4), 4);
+        x.units(1);
+        x.latency(LOAD, 3);
+        due.is("9: shortest with another latency", x.length(4), 6);
     }
 
     private static void place() {
