@@ -7,7 +7,7 @@ public final class BlockBench {
     public static final int NO = -3;
 
     private static final int MOST_INSTRUCTIONS = 60;
-    private static final int MOST_PAIRS = 1770;
+    private static final int MOST_PAIRS = MOST_INSTRUCTIONS * (MOST_INSTRUCTIONS - 1) / 2;
     private static final int MOST_FOR_SHORTEST = 7;
     private static final int REGISTERS = 16;
     private static final int WORDS = 64;

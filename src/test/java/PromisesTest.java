@@ -136,6 +136,14 @@ public final class PromisesTest {
         due.is("3: the next number", x.add(SET, 2, 0, 0, 7), 1);
         due.is("3: all", x.cut(2), 0);
         due.is("3: no length", x.length(2), 0);
+
+        BlockBench y = fork();
+        due.is("3: way before", y.about(1, 0), 8);
+        y.cut(2);
+        due.is("3: way without those that depended", y.about(1, 0), 4);
+        due.is("3: dependences without them", y.length(7), 0);
+        due.is("3: list plan without them", y.length(1), 5);
+        due.is("3: shortest without them", y.length(4), 5);
     }
 
     private static void latency() {
@@ -326,6 +334,10 @@ public final class PromisesTest {
         aboutAll("7: EARLY", x, 1, 0, 0, 0, 4, 6);
         aboutAll("7: SLACK", x, 2, 5, 0, 0, 0, 0);
         due.is("9: greatest WAY", x.length(0), 8);
+        x.add(SET, 8, 0, 0, 0);
+        due.is("7: EARLY of one that depends on none", x.about(5, 1), 0);
+        due.is("7: SLACK of one that depends on none", x.about(5, 2), 7);
+        due.is("7: in order, behind the one ahead", x.about(5, 4), 9);
 
         BlockBench y = new BlockBench();
         y.latency(MUL, 12);
