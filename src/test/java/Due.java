@@ -2,12 +2,18 @@
 final class Due {
     private int wrong = 0;
     private int asked = 0;
+    private String sentence = "";
+
+    /** The sentence of the document that the next answers are held against: told when one is wrong. */
+    void sentence(String heading, String words) {
+        sentence = heading + " \"" + words + "\": ";
+    }
 
     void is(String call, long got, long want) {
         asked++;
         if (got != want) {
             wrong++;
-            System.out.println(call + " answered " + got + ", due is " + want);
+            System.out.println(sentence + call + " answered " + got + ", due is " + want);
         }
     }
 
@@ -15,7 +21,7 @@ final class Due {
         asked++;
         if (!so) {
             wrong++;
-            System.out.println("does not hold: " + what);
+            System.out.println(sentence + "does not hold: " + what);
         }
     }
 
