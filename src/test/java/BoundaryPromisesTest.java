@@ -11,6 +11,7 @@ public final class BoundaryPromisesTest extends Boundary {
         addBadAndFull();
         cutTheLast();
         cutToNone();
+        cutBeforeTheShortest();
         cutBad();
         latencyTheOneBefore();
         latencyBad();
@@ -193,6 +194,32 @@ public final class BoundaryPromisesTest extends Boundary {
         due.is("none there, run(0)", x.run(0), 0);
         due.is("none there, run(2)", x.run(2), 0);
         due.is("none there, listed(0)", x.listed(0), BAD);
+    }
+
+    /** What stood behind the end does not count, though the plans have been asked for with it. */
+    private static void cutBeforeTheShortest() {
+        due.sentence("Promise 3", "The last n instructions go: how many there are.");
+        int[][] lastOnes = {set(9), mul(9, 9, 9), mul(10, 3, 3)};
+        for (int[] last : lastOnes) {
+            BlockBench x = block(set(3), set(4), mul(1, 5, 4), add(4, 3, 2), last, last);
+            x.latency(SET, 3);
+            x.latency(ADD, 2);
+            x.latency(MUL, 12);
+            x.length(4);
+            x.cut(2);
+            x.latency(MUL, 1);
+            due.is("shortest", x.length(4), 6);
+            due.is("list plan", x.length(1), 7);
+            due.is("greatest WAY", x.length(0), 5);
+        }
+        BlockBench y = block(load(5, 1, 0), set(0), add(5, 0, 5), add(6, 0, 2), mul(9, 9, 9));
+        y.latency(SET, 2);
+        y.latency(ADD, 2);
+        y.latency(LOAD, 2);
+        y.latency(MUL, 12);
+        due.is("shortest with all", y.length(4), 12);
+        y.cut(1);
+        due.is("shortest without the last", y.length(4), 5);
     }
 
     private static void cutBad() {

@@ -664,6 +664,9 @@ public final class BoundaryTermsTest extends Boundary {
         y.latency(LOAD, 4);
         aboutIs("the greatest sum of two", y, 0, 7, 2, 4);
         aboutIs("nothing depends", block(set(1)), 0, 1);
+        BlockBench z = block(set(5), mul(1, 2, 3), add(4, 1, 1));
+        z.latency(MUL, 12);
+        aboutIs("nothing depends, though a long way stands behind", z, 0, 1, 13, 1);
     }
 
     private static void longestWays() {
